@@ -63,7 +63,6 @@ public final class TurnedLand {
   private final Ways ways = new Ways();
   private final Ways otherWays = new Ways();
   private final Walker walker = new Walker();
-  private final Scales scales = new Scales();
   private final Reader reader = new Reader();
   private final Voices voices = new Voices();
 
@@ -364,22 +363,23 @@ public final class TurnedLand {
   }
 
   public int agree() {
-    scales.weigh(now, walker);
-    return scales.agreeing;
+    now.doubts.weigh(now, walker);
+    return now.doubts.agreeing;
   }
 
   public int known(int join) {
+    Doubts doubts = now.doubts;
     if (!now.ground.hasJoin(join)) return refuse(BEYOND);
-    if ((now.doubts.joins >> join & 1) == 0) return now.ground.turned[join];
-    scales.weigh(now, walker);
-    if (scales.agreeing == 0) return refuse(NONE);
-    if (scales.turned[join] == 0) return 0;
-    return scales.turned[join] == scales.agreeing ? 1 : 2;
+    if ((doubts.joins >> join & 1) == 0) return now.ground.turned[join];
+    doubts.weigh(now, walker);
+    if (doubts.agreeing == 0) return refuse(NONE);
+    if (doubts.turned[join] == 0) return 0;
+    return doubts.turned[join] == doubts.agreeing ? 1 : 2;
   }
 
   public int test() {
-    scales.weigh(now, walker);
-    int best = scales.mostTelling(now.walks.size);
+    now.doubts.weigh(now, walker);
+    int best = now.doubts.mostTelling(now.walks.size);
     return best < 0 ? refuse(NONE) : best;
   }
 
@@ -805,18 +805,78 @@ public final class TurnedLand {
     }
   }
 
-  /** JOINS in DOUBT (as bits) and FACTS. */
+  /** JOINS in DOUBT (as bits) and FACTS; and all ways in which those JOINS may be, weighed against these. */
   private static final class Doubts {
     int joins = 0;
     int facts = 0;
     final int[] factWalks = new int[MOST_FACTS];
     final int[] factOdds = new int[MOST_FACTS];
 
+    /** From here on weigh() sets all anew: in how many ways FACTS are all so. */
+    int agreeing = 0;
+    /** In how many of these a JOIN is TURNED. */
+    final int[] turned = new int[MOST_JOINS];
+    /** In how many of these one's HAND behind a WALK is as ahead. */
+    private final int[] evens = new int[MOST_WALKS];
+    /** JOINS (as bits) that a WALK crosses an odd number of times; -1 if it can't be gone. */
+    private final int[] oddJoins = new int[MOST_WALKS];
+
     void takeOver(Doubts from) {
       joins = from.joins;
       facts = from.facts;
       System.arraycopy(from.factWalks, 0, factWalks, 0, MOST_FACTS);
       System.arraycopy(from.factOdds, 0, factOdds, 0, MOST_FACTS);
+    }
+
+    void weigh(World world, Walker walker) {
+      for (int walk = 0; walk < world.walks.size; walk++) {
+        oddJoins[walk] = walker.goes(world, walk, 0) ? walker.oddJoins(world, walk) : -1;
+      }
+      agreeing = 0;
+      Arrays.fill(turned, 0);
+      Arrays.fill(evens, 0);
+      int sure = world.ground.turnedSet() & ~joins;
+      int guess = joins;
+      for (int left = 1 << Integer.bitCount(joins); left > 0; left--) {
+        if (areSo(sure | guess)) countIn(world, sure | guess);
+        guess = (guess - 1) & joins;
+      }
+    }
+
+    /** The WALK that can be gone whose greater part is least; -1 if there is none. */
+    int mostTelling(int walks) {
+      int best = -1;
+      int least = 0;
+      for (int walk = 0; walk < walks; walk++) {
+        int greater = Math.max(evens[walk], agreeing - evens[walk]);
+        if (oddJoins[walk] >= 0 && (best < 0 || greater < least)) {
+          best = walk;
+          least = greater;
+        }
+      }
+      return best;
+    }
+
+    private boolean areSo(int turnedSet) {
+      for (int fact = 0; fact < facts; fact++) {
+        int crossed = oddJoins[factWalks[fact]];
+        if (crossed < 0 || turnsOver(crossed, turnedSet) != factOdds[fact]) return false;
+      }
+      return true;
+    }
+
+    private void countIn(World world, int turnedSet) {
+      agreeing++;
+      for (int join = 0; join < world.ground.joins; join++) {
+        turned[join] += turnedSet >> join & 1;
+      }
+      for (int walk = 0; walk < world.walks.size; walk++) {
+        if (oddJoins[walk] >= 0) evens[walk] += 1 - turnsOver(oddJoins[walk], turnedSet);
+      }
+    }
+
+    private static int turnsOver(int crossed, int turnedSet) {
+      return Integer.bitCount(crossed & turnedSet) & 1;
     }
   }
 
@@ -1081,70 +1141,6 @@ public final class TurnedLand {
         squares |= 1 << places[i] / 2;
       }
       return squares;
-    }
-  }
-
-  /** Weighs all ways in which JOINS in DOUBT may be against FACTS. */
-  private static final class Scales {
-    /** In how many ways FACTS are all so. */
-    int agreeing = 0;
-    /** In how many of these a JOIN is TURNED. */
-    final int[] turned = new int[MOST_JOINS];
-    /** In how many of these one's HAND behind a WALK is as ahead. */
-    private final int[] evens = new int[MOST_WALKS];
-    /** JOINS (as bits) that a WALK crosses an odd number of times; -1 if it can't be gone. */
-    private final int[] oddJoins = new int[MOST_WALKS];
-
-    void weigh(World world, Walker walker) {
-      for (int walk = 0; walk < world.walks.size; walk++) {
-        oddJoins[walk] = walker.goes(world, walk, 0) ? walker.oddJoins(world, walk) : -1;
-      }
-      agreeing = 0;
-      Arrays.fill(turned, 0);
-      Arrays.fill(evens, 0);
-      int doubted = world.doubts.joins;
-      int sure = world.ground.turnedSet() & ~doubted;
-      int guess = doubted;
-      for (int i = 1 << Integer.bitCount(doubted); i > 0; i--) {
-        if (areSo(world.doubts, sure | guess)) countIn(world, sure | guess);
-        guess = (guess - 1) & doubted;
-      }
-    }
-
-    /** The WALK that can be gone whose greater part is least; -1 if there is none. */
-    int mostTelling(int walks) {
-      int best = -1;
-      int least = 0;
-      for (int walk = 0; walk < walks; walk++) {
-        int greater = Math.max(evens[walk], agreeing - evens[walk]);
-        if (oddJoins[walk] >= 0 && (best < 0 || greater < least)) {
-          best = walk;
-          least = greater;
-        }
-      }
-      return best;
-    }
-
-    private boolean areSo(Doubts doubts, int turnedSet) {
-      for (int fact = 0; fact < doubts.facts; fact++) {
-        int crossed = oddJoins[doubts.factWalks[fact]];
-        if (crossed < 0 || turnsOver(crossed, turnedSet) != doubts.factOdds[fact]) return false;
-      }
-      return true;
-    }
-
-    private void countIn(World world, int turnedSet) {
-      agreeing++;
-      for (int join = 0; join < world.ground.joins; join++) {
-        turned[join] += turnedSet >> join & 1;
-      }
-      for (int walk = 0; walk < world.walks.size; walk++) {
-        if (oddJoins[walk] >= 0) evens[walk] += 1 - turnsOver(oddJoins[walk], turnedSet);
-      }
-    }
-
-    private static int turnsOver(int crossed, int turnedSet) {
-      return Integer.bitCount(crossed & turnedSet) & 1;
     }
   }
 
