@@ -82,7 +82,9 @@ public final class PromisesTest {
     landEmptyAndOne();
     landCorners();
     landPartsRims();
+    landTurned();
     plain();
+    plainCuts();
     plainNone();
     feed();
     text();
@@ -335,6 +337,9 @@ public final class PromisesTest {
     due(2, x.land(4));
     x.turn(1, 0);
     due(1, x.land(5));
+    TurnedLand pipe = land(1);
+    pipe.join(NORTH, SOUTH, 0);
+    due(2, pipe.land(4));
     TurnedLand touching = land(1, 1);
     touching.join(edge(0, EAST), edge(1, WEST), 0);
     touching.join(edge(0, WEST), edge(1, EAST), 0);
@@ -355,6 +360,29 @@ public final class PromisesTest {
     x.join(edge(1, NORTH), edge(1, EAST), 1);
     due(2, x.plain());
     due(4, x.count(1));
+  }
+
+  /** A ring of four SQUARES, its JOINS in any order: one comes home turned if an odd number is TURNED. */
+  private static void landTurned() {
+    int[][] orders = {{0, 1, 2, 3}, {0, 2, 1, 3}, {3, 1, 2, 0}, {2, 0, 3, 1}};
+    for (int[] order : orders) {
+      for (int turned = 0; turned < 16; turned++) {
+        TurnedLand x = land(1, 1, 1, 1);
+        for (int i : order) x.join(edge(i, EAST), edge((i + 1) % 4, WEST), turned >> i & 1);
+        due(Integer.bitCount(turned) % 2, x.land(5));
+        due(Integer.bitCount(turned) % 2, x.plain());
+      }
+    }
+  }
+
+  /** Four SQUARES, each joined to itself: each TURNED one takes a cut of its own. */
+  private static void plainCuts() {
+    for (int turned = 0; turned < 16; turned++) {
+      TurnedLand x = land(1, 1, 1, 1);
+      for (int i = 0; i < 4; i++) x.join(edge(i, EAST), edge(i, WEST), turned >> i & 1);
+      int cuts = Integer.bitCount(turned);
+      due(cuts > 2 ? NONE : cuts, x.plain());
+    }
   }
 
   private static void plainNone() {
@@ -512,6 +540,7 @@ public final class PromisesTest {
     due(0, value("2>2", 0, 0));
     due(1, value("5&7", 0, 0));
     due(0, value("5&0", 0, 0));
+    due(1, value("1&1", 0, 0));
     due(1, value("0|7", 0, 0));
     due(1, value("6|5", 0, 0));
     due(0, value("0|0", 0, 0));
@@ -535,6 +564,12 @@ public final class PromisesTest {
     due(43, value("w+a", 42, 0));
     due(42, value("w*s", 42, 1));
     due(0, value("w*s", 42, 0));
+    TurnedLand x = land(1);
+    x.thing(0, 1, 1);
+    for (int i = 1; i < 9; i++) {
+      due(1, text(x, 1, "w+a+s+1+1+1+1+1+1+1+1+1+1+1+1+1+1+1+1+1+1+1+1+1+1+1+1+1+" + i));
+      due(28 + i, x.thingIs(0, 3));
+    }
   }
 
   private static void textHours() {
@@ -624,6 +659,11 @@ public final class PromisesTest {
     due(0b10101010, x.reached(7));
     x.square(1);
     due(1 << 9, x.reached(9));
+    TurnedLand row = land(1, 1, 1, 1, 1, 1, 1, 1);
+    for (int i = 0; i < 7; i++) row.join(edge(i, EAST), edge(i + 1, WEST), i % 2);
+    due(7, row.soonest(0, 15));
+    due(NONE, row.soonest(0, 14));
+    due(0b10_10_01_01_10_10_01_01, row.reached(0));
     x.part();
     x.part();
     due(0b00010101, x.reached(2));
@@ -654,6 +694,17 @@ public final class PromisesTest {
     due(EAST, even.first(2, 0));
     due(EAST, even.first(0, 1));
     due(EAST, even.first(0, 3));
+    TurnedLand late = land(4, 6, 6, 1);
+    late.join(edge(0, SOUTH), edge(1, WEST), 0);
+    late.join(edge(0, EAST), edge(2, WEST), 0);
+    late.join(edge(1, EAST), edge(3, WEST), 0);
+    late.join(edge(2, EAST), edge(3, SOUTH), 0);
+    due(10, late.soonest(0, 6));
+    due(EAST, late.first(0, 6));
+    late.cost(2, 7);
+    due(SOUTH, late.first(0, 6));
+    late.cost(2, 5);
+    due(EAST, late.first(0, 6));
   }
 
   private static void walk() {
@@ -750,6 +801,12 @@ public final class PromisesTest {
     due(1, x.walkIs(7, 4));
     due(212, x.gone(7, 1, 1));
     x.untell(0);
+    TurnedLand last = land(1);
+    for (int i = 0; i < 10; i++) {
+      due(i, last.walk(4, 0, 0));
+      due(0, last.walkIs(i, 4));
+      if (i > 0) due(1, last.walkIs(i - 1, 4));
+    }
     TurnedLand w = pair();
     due(0, w.walkIs(w.walk(6, 0, 0), 4));
     due(1, w.walkIs(w.walk(6, 0, 13), 4));
@@ -835,6 +892,10 @@ public final class PromisesTest {
     due(5 + 7 + 10, x.gone(0, 0, 1));
     due(105 + 107 + 10, x.gone(0, 1, 1));
     due(15 + 117 + 5 + 7, x.gone(1, 0, 1));
+    x.walk(0, 0, 24242424);
+    x.walk(0, 0, 14141414);
+    due(8, x.gone(4, 1, 2));
+    due(4, x.gone(5, 0, 2));
   }
 
   private static void stops() {
@@ -867,6 +928,13 @@ public final class PromisesTest {
     due(BEYOND, x.person(4));
     due(6, x.count(3));
     due(1, x.personIs(5, 0));
+    TurnedLand y = pair();
+    y.image();
+    y.person(0);
+    y.cross(0, EAST);
+    y.restore();
+    due(0, y.person(2));
+    due(0, y.personIs(0, 1));
   }
 
   private static void personIs() {
@@ -1069,6 +1137,12 @@ public final class PromisesTest {
     far.thing(0, 2, 0);
     due(1, far.bring(0));
     due(1, far.told(2));
+    for (int hand = 0; hand < 2; hand++) {
+      TurnedLand alone = land(3);
+      alone.thing(hand, 7, 0);
+      alone.person(1 - hand);
+      due(0, alone.bring(0));
+    }
   }
 
   /** A THING comes the SOONEST way, though the other HAND were worth more; of two as soon with HAND 0. */
@@ -1229,6 +1303,16 @@ public final class PromisesTest {
     due(0, x.agree());
     due(1, x.test());
     due(2, x.told(2));
+    TurnedLand none = ring();
+    none.walk(0, 0, 1);
+    none.walk(0, 0, 11);
+    due(0, none.test());
+    none.doubt(0b0001);
+    due(0, none.test());
+    none.doubt(0b0010);
+    due(1, none.test());
+    none.doubt(0b0101);
+    due(0, none.test());
   }
 
   private static void seed() {
@@ -1375,11 +1459,17 @@ public final class PromisesTest {
     due(1, x.sheet(1, 16, 3));
     due(STATE, x.sheet(1, 16, -3));
     due(1, x.put(1, 2, 7));
-    x.put(1, 0, 1);
+    due(1, x.sheet(1, 16, 3));
     x.put(1, 1, 2);
+    due(1, x.joins(1));
+    due(2, x.across(0));
+    due(0, x.joinIs(0, 2));
     x.put(1, 2, 1);
     due(1, x.sheet(1, 8, 3));
-    due(0, x.joins(1));
+    x.put(1, 0, 1);
+    x.put(1, 1, 3);
+    due(1, x.joins(1));
+    due(0, x.joinIs(1, 2));
     due(2, x.told(2));
   }
 
@@ -1524,6 +1614,7 @@ public final class PromisesTest {
     due(1, x.image());
     x.cost(0, 9);
     x.turn(0, 1);
+    x.part();
     x.join(2, 3, 0);
     x.square(1);
     x.set(0, 3, 1);
@@ -1534,20 +1625,34 @@ public final class PromisesTest {
     x.thing(0, 1, 1);
     x.doubt(1);
     x.forget();
-    text(x, 0, "1");
+    x.fact(1, 0);
+    x.fact(1, 1);
+    x.text(1);
+    due(1, text(x, 0, "1"));
+    due(1, text(x, 1, "2"));
     x.untell(1);
-    feed(x, "!!");
-    tell(x, 9);
+    feed(x, "!!!!");
     x.check(0);
+    tell(x, 9, 9, 9, 9);
     x.seed(43);
-    x.part();
     x.put(0, 2, 1);
     x.voice(0, 1, 0);
-    due(STATE, x.cross(0, SOUTH));
+    due(STATE, x.cross(0, NORTH));
     due(2, x.restore());
     int[] counts = {2, 2, 1, 1, 1, 1, 3, 3, 2, 42, 2};
     for (int what = 0; what <= 10; what++) due(counts[what], x.count(what));
+    due(1, x.agree());
+    x.turn(1, 0);
+    due(1, x.agree());
+    due(2, x.doubt(0));
+    due(0, x.agree());
+    x.turn(1, 1);
+    due(1, x.agree());
     due(0, x.joinIs(0, 2));
+    due(1, x.joinIs(1, 0));
+    due(7, x.joinIs(1, 1));
+    due(7, x.across(1));
+    due(NONE, x.across(2));
     due(77, x.walkIs(0, 3));
     due(1, x.walkIs(0, 0));
     due(2, x.personIs(0, 0));
@@ -1558,7 +1663,7 @@ public final class PromisesTest {
     due(1, x.text(0));
     due(5, x.cost(0, 5));
     due(11, x.body(0));
-    due(1, x.told(3));
+    due(2, x.told(3));
     due(1, x.joins(0));
     due(1, x.joinIs(2, 2));
     due(2, x.restore());
