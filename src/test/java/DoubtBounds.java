@@ -124,6 +124,12 @@ final class DoubtBounds extends Bounds {
         return x.agree();
       });
     }
+    for (int j = 0; j < 6; j++) {
+      int join = j;
+      due("FACT of JOIN " + j + ", as told", 1, DoubtBounds::six, x -> x.doubt(0) + x.fact(join, join % 2) == 63 ? x.agree() : -1);
+      due("FACT of JOIN " + j + ", not as told", 0, DoubtBounds::six,
+          x -> x.doubt(0) + x.fact(join, 1 - join % 2) == 63 ? x.agree() : -1);
+    }
     due("no JOINS, no WALKS", 1, Bounds::nothing, x -> x.agree());
     due("a FACT said twelve times", 32, DoubtBounds::six, x -> {
       for (int f = 0; f < 12; f++) x.fact(5, 1);

@@ -72,6 +72,15 @@ final class FolkBounds extends Bounds {
       x.square(99);
       x.person(1);
     }, x -> x.personIs(0, 1));
+    due("HOURS at first of one whose number another one had", 0, x -> {
+      x.square(99);
+      x.join(EAST, WEST, STRAIGHT);
+      x.image();
+      x.person(1);
+      x.cross(0, EAST);
+      x.restore();
+      x.person(0);
+    }, x -> x.personIs(0, 1));
     due("1000 CROSSINGS of 999 hours", 999000, FolkBounds::nearlyHeld, x -> x.personIs(0, 1));
     int[][] more = {{998, 999998}, {999, 999999}};
     for (int[] m : more) {

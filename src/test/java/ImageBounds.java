@@ -63,6 +63,7 @@ final class ImageBounds extends Bounds {
       x.image();
       for (int s = 0; s < 8; s++) x.cost(s, 99 - s);
       for (int j = 0; j < 6; j++) x.part();
+      for (int j = 10; j < 16; j += 2) x.join(31 - j, 30 - j, 1);
       for (int j = 0; j < 10; j++) x.turn(j, 1 - j % 2);
       for (int w = 0; w < 10; w++) {
         x.set(w, 0, (w + 1) % 7);
@@ -94,7 +95,10 @@ final class ImageBounds extends Bounds {
       x.thing(15, 5, 1);
       x.fact(4, 0);
       x.doubt(63);
-      feed(x, "+2");
+      x.text(0);
+      text(x, 0, "d*3+77");
+      text(x, 1, "s*9+1");
+      feed(x, "8");
       x.tell(3);
       x.cross(2, EAST);
       x.restore();

@@ -22,6 +22,7 @@ final class LandBounds extends Bounds {
     landNumbers();
     partsAndRims();
     comesHome();
+    ringsInAnyOrder();
     plain();
     plainOfSixteen();
   }
@@ -377,6 +378,13 @@ final class LandBounds extends Bounds {
     due("turned it has one", 1, pipe.land(4));
     pipe.join(NORTH, SOUTH, STRAIGHT);
     due("joined all, none", 0, pipe.land(4));
+    for (int side = 0; side < 2; side++) {
+      TurnedLand one = land(1);
+      one.join(1 - side, 3 - side, STRAIGHT);
+      due("EDGES " + side + " and " + (side + 2) + " alone are RIM: two rings", 2, one.land(4));
+      one.turn(0, TURNED);
+      due("EDGES " + side + " and " + (side + 2) + " alone are RIM, turned: one ring", 1, one.land(4));
+    }
     TurnedLand touch = land(1, 1);
     touch.join(edge(0, EAST), edge(1, WEST), STRAIGHT);
     touch.join(edge(0, WEST), edge(1, EAST), STRAIGHT);
@@ -401,6 +409,28 @@ final class LandBounds extends Bounds {
     due("in the last SQUARE alone", 1, far.land(5));
     far.turn(0, STRAIGHT);
     due("nowhere", 0, far.land(5));
+  }
+
+  /** Whether an odd number of JOINS in a ring is TURNED, whichever way and in whichever order they came. */
+  private static void ringsInAnyOrder() {
+    term(3, "5 1 if somebody can come home with the other HAND, else 0.");
+    int[][] orders = {{0, 1, 2, 3}, {3, 2, 1, 0}, {0, 2, 1, 3}, {1, 3, 0, 2}, {2, 0, 3, 1}, {3, 1, 2, 0}};
+    for (int[] order : orders) {
+      for (int ways = 0; ways < 16; ways++) {
+        for (int turned = 0; turned < 16; turned++) {
+          TurnedLand x = land(1, 1, 1, 1);
+          for (int j : order) {
+            int east = edge(j, EAST);
+            int west = edge((j + 1) % 4, WEST);
+            boolean back = (ways >> j & 1) == 1;
+            x.join(back ? west : east, back ? east : west, turned >> j & 1);
+          }
+          String about = "a ring, JOINS as bits " + turned + " TURNED, " + ways + " the other way, first " + order[0];
+          due(about, Integer.bitCount(turned) % 2, x.land(5));
+          due(about + ", PLAIN", Integer.bitCount(turned) % 2, x.plain());
+        }
+      }
+    }
   }
 
   private static void plain() {

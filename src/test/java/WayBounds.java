@@ -75,6 +75,16 @@ final class WayBounds extends Bounds {
     x.join(edge(1, NORTH), edge(2, SOUTH), STRAIGHT);
     x.join(edge(2, NORTH), edge(3, SOUTH), STRAIGHT);
     due("one CROSSING ahead of three", 10, x.soonest(0, 6));
+    TurnedLand late = land(1, 50, 1, 1, 1, 7);
+    late.join(edge(0, EAST), edge(1, WEST), STRAIGHT);
+    late.join(edge(0, WEST), edge(2, EAST), STRAIGHT);
+    late.join(edge(1, EAST), edge(3, WEST), STRAIGHT);
+    late.join(edge(2, WEST), edge(4, EAST), STRAIGHT);
+    late.join(edge(4, WEST), edge(3, EAST), STRAIGHT);
+    late.join(edge(3, NORTH), edge(5, SOUTH), STRAIGHT);
+    due("the sooner way to a SQUARE has one CROSSING more", 3, late.soonest(0, 6));
+    due("and so beyond that SQUARE", 4, late.soonest(0, 10));
+    due("and back", 10, late.soonest(11, 1));
     int[][] costs = {{3, 53}, {9, 59}, {10, 60}, {11, 60}, {99, 60}};
     for (int[] c : costs) {
       x.cost(2, c[0]);
@@ -152,5 +162,15 @@ final class WayBounds extends Bounds {
     due("the least EDGE of ways as soon", EAST, x.first(0, 6));
     x.cost(2, 6);
     due("the least EDGE, sooner", EAST, x.first(0, 6));
+    TurnedLand y = land(2, 5, 2, 1);
+    y.join(edge(0, SOUTH), edge(1, EAST), STRAIGHT);
+    y.join(edge(0, EAST), edge(2, EAST), STRAIGHT);
+    y.join(edge(1, WEST), edge(3, EAST), STRAIGHT);
+    y.join(edge(2, WEST), edge(3, WEST), STRAIGHT);
+    due("the least EDGE, by the greater SQUARE, sooner", EAST, y.first(0, 6));
+    y.cost(2, 5);
+    due("the least EDGE of ways as soon, by the greater SQUARE", EAST, y.first(0, 6));
+    y.cost(2, 6);
+    due("the greater EDGE, by the less SQUARE, sooner", SOUTH, y.first(0, 6));
   }
 }
