@@ -77,13 +77,18 @@ abstract class Bounds {
     for (int k = 1; k <= 6; k++) {
       due(about + ", told(" + k + ")", without.told(k) + (LOW - k == error ? 1 : 0), with.told(k));
     }
+    changesNothing(about, ahead, asked);
+  }
+
+  /** Behind the call all looks as in a land without it. */
+  static void changesNothing(String about, Acts ahead, Asks asked) {
     int looks = 0;
     for (Looks.Look look : Looks.ALL) {
       TurnedLand one = landOf(ahead);
       asked.of(one);
       List<Integer> seen = Looks.seen(look, one);
       boolean same = seen.equals(Looks.seen(look, landOf(ahead)));
-      TALLY.is(sentence + ", " + about + ": something has changed behind the refused call, look " + looks, same);
+      TALLY.is(sentence + ", " + about + ": something has changed behind the call, look " + looks, same);
       looks++;
     }
   }
@@ -210,6 +215,31 @@ abstract class Bounds {
     x.square(1);
     x.join(0, 1, STRAIGHT);
     x.part();
+  }
+
+  /** Some of all, but JOINS: no WALK can be gone. */
+  static void someParted(TurnedLand x) {
+    some(x);
+    for (int j = 0; j < 4; j++) x.part();
+  }
+
+  /** Some of much, but no IMAGE. */
+  static void neverKept(TurnedLand x) {
+    threeBands(x);
+    x.walk(3, 0, 1);
+    x.set(0, 3, 5);
+    x.person(2);
+    x.cross(0, WEST);
+    x.thing(3, 60, 0);
+    x.doubt(3);
+    x.fact(0, 1);
+    text(x, 0, "c+9");
+    text(x, 1, "w-1");
+    feed(x, "d*2");
+    tell(x, 0, 1);
+    fill(x, 1, 16, 1, 5, 1);
+    x.seed(1234);
+    x.voice(0, 2, 8);
   }
 
   /** Three SQUARES, each joined to itself so that who crosses comes home turned. */

@@ -234,6 +234,10 @@ final class DoubtBounds extends Bounds {
       int join = j;
       refused("JOIN " + j + ", no way agrees", NONE, DoubtBounds::contrary, x -> x.known(join));
     }
+    refused("no way agrees, where there is some of all", NONE, x -> {
+      some(x);
+      x.fact(0, 1);
+    }, x -> x.known(0));
     refused("a FACT of a WALK that can't be gone", NONE, x -> {
       six(x);
       x.walk(0, 0, 4);
@@ -304,6 +308,7 @@ final class DoubtBounds extends Bounds {
   private static void testNone() {
     says(36, "NONE: no WALK can be gone.");
     refused("no WALKS", NONE, Bounds::nothing, x -> x.test());
+    refused("four WALKS that can be gone no more", NONE, Bounds::someParted, x -> x.test());
     refused("SQUARES, JOINS, no WALKS", NONE, Bounds::threeBands, x -> x.test());
     refused("ten WALKS that can't be gone", NONE, x -> {
       x.square(1);

@@ -172,6 +172,10 @@ final class FolkBounds extends Bounds {
       due("n " + n + ", where all is RIM: one stays", 1, FolkBounds::alone, x -> x.stroll(0, n));
       due("n " + n + ", where all is RIM: no HOURS", 0, FolkBounds::alone, x -> x.stroll(0, n) == 1 ? x.personIs(0, 1) : -1);
       due("n " + n + ", where all is RIM: draws", drawn(1, n), FolkBounds::alone, x -> x.stroll(0, n) == 1 ? x.count(9) : -1);
+      for (int k = 1; k <= 6; k++) {
+        int error = k;
+        due("n " + n + ", where all is RIM: told(" + k + ")", 0, FolkBounds::alone, x -> x.stroll(0, n) == 1 ? x.told(error) : -1);
+      }
       due("n " + n + ", where all is joined: HOURS", 99 * n, FolkBounds::closed, x -> x.stroll(0, n) >= 0 ? x.personIs(0, 1) : -1);
       due("n " + n + ", where all is joined: draws", drawn(1, n), FolkBounds::closed, x -> x.stroll(0, n) >= 0 ? x.count(9) : -1);
     }
@@ -461,6 +465,10 @@ final class FolkBounds extends Bounds {
       x.thing(2, 9999, 1);
       x.thing(1, 0, 0);
     }, x -> x.bring(0));
+    refused("no THING comes to a SQUARE alone", NONE, x -> {
+      some(x);
+      x.person(8);
+    }, x -> x.bring(3));
     refused("no such one of PEOPLE, no THINGS: BEYOND ahead of NONE", BEYOND, FolkBounds::alone, x -> x.bring(1));
   }
 }

@@ -20,6 +20,7 @@ final class ImageBounds extends Bounds {
     told();
     toldOfEach();
     errors();
+    asking();
     quotients();
     calls();
     lastCall();
@@ -183,6 +184,7 @@ final class ImageBounds extends Bounds {
     says(45, "NONE: there is none.");
     refused("none yet", NONE, Bounds::nothing, y -> y.restore());
     refused("SQUARES, but no IMAGE", NONE, Bounds::threeBands, y -> y.restore());
+    refused("much, but no IMAGE", NONE, Bounds::neverKept, y -> y.restore());
     due("an IMAGE of nothing is one", 0, Bounds::nothing, y -> y.image() == 1 ? y.restore() : -1);
   }
 
@@ -350,31 +352,26 @@ final class ImageBounds extends Bounds {
   /** Each ERROR is counted at its own k, whichever act answers it. */
   private static void toldOfEach() {
     says(49, "How many acts have answered an ERROR LOW - k (k 1 .. 6);");
-    Object[][] acts = {
-      {1, (Asks) x -> x.square(0)}, {1, (Asks) x -> x.cost(-1, 1)}, {1, (Asks) x -> x.join(0, 0, 0)}, {1, (Asks) x -> x.joinIs(-1, 0)},
-      {1, (Asks) x -> x.turn(-1, 0)}, {1, (Asks) x -> x.across(-1)}, {1, (Asks) x -> x.land(6)}, {1, (Asks) x -> x.feed(0, 0)},
-      {1, (Asks) x -> x.text(2)}, {1, (Asks) x -> x.untell(2)}, {1, (Asks) x -> x.soonest(-1, 0)}, {1, (Asks) x -> x.reached(-1)},
-      {1, (Asks) x -> x.first(-1, 0)}, {1, (Asks) x -> x.walk(7, 0, 0)}, {1, (Asks) x -> x.walkIs(-1, 0)}, {1, (Asks) x -> x.as(-1, 0)},
-      {1, (Asks) x -> x.set(-1, 0, 0)}, {1, (Asks) x -> x.gone(-1, 0, 0)}, {1, (Asks) x -> x.stops(-1)}, {1, (Asks) x -> x.person(-1)},
-      {1, (Asks) x -> x.personIs(-1, 0)}, {1, (Asks) x -> x.cross(-1, 0)}, {1, (Asks) x -> x.stroll(-1, 1)},
-      {1, (Asks) x -> x.meet(0, 0, 0)}, {1, (Asks) x -> x.thing(-1, 1, 0)}, {1, (Asks) x -> x.thingIs(-1, 0)},
-      {1, (Asks) x -> x.bring(-1)}, {1, (Asks) x -> x.doubt(-1)}, {1, (Asks) x -> x.fact(-1, 0)}, {1, (Asks) x -> x.known(-1)},
-      {1, (Asks) x -> x.voice(-1, 0, 0)}, {1, (Asks) x -> x.sheet(4, 8, 1)}, {1, (Asks) x -> x.put(4, 0, 0)},
-      {1, (Asks) x -> x.move(4, 0, 0, 0, 0)}, {1, (Asks) x -> x.joins(4)}, {1, (Asks) x -> x.check(-1)}, {1, (Asks) x -> x.count(11)},
-      {1, (Asks) x -> x.told(7)},
-      {2, (Asks) x -> x.across(1)}, {2, (Asks) x -> x.soonest(0, 8)}, {2, (Asks) x -> x.first(0, 0)}, {2, (Asks) x -> x.stops(1)},
-      {2, (Asks) x -> x.meet(0, 1, 1)}, {2, (Asks) x -> x.body(-1)}, {2, (Asks) x -> x.put(3, 0, 0)},
-      {2, (Asks) x -> x.move(3, 0, 0, 0, 0)}, {2, (Asks) x -> x.joins(3)},
-      {3, (Asks) x -> x.join(0, 1, 0)}, {3, (Asks) x -> x.gone(3, 0, 0)}, {3, (Asks) x -> x.cross(2, 1)},
-      {3, (Asks) x -> x.sheet(0, 8, -1)}, {3, (Asks) x -> x.check(3)},
-      {5, (Asks) x -> x.as(0, 2)}, {5, (Asks) x -> x.move(0, 0, 1, 0, 0)}
-    };
-    for (Object[] act : acts) {
+    counted(1, x -> x.square(0), x -> x.cost(-1, 1), x -> x.join(0, 0, 0), x -> x.joinIs(-1, 0), x -> x.turn(-1, 0),
+        x -> x.across(-1), x -> x.land(6), x -> x.feed(0, 0), x -> x.text(2), x -> x.untell(2), x -> x.soonest(-1, 0),
+        x -> x.reached(-1), x -> x.first(-1, 0), x -> x.walk(7, 0, 0), x -> x.walkIs(-1, 0), x -> x.as(-1, 0),
+        x -> x.set(-1, 0, 0), x -> x.gone(-1, 0, 0), x -> x.stops(-1), x -> x.person(-1), x -> x.personIs(-1, 0),
+        x -> x.cross(-1, 0), x -> x.stroll(-1, 1), x -> x.meet(0, 0, 0), x -> x.thing(-1, 1, 0), x -> x.thingIs(-1, 0),
+        x -> x.bring(-1), x -> x.doubt(-1), x -> x.fact(-1, 0), x -> x.known(-1), x -> x.voice(-1, 0, 0),
+        x -> x.sheet(4, 8, 1), x -> x.put(4, 0, 0), x -> x.move(4, 0, 0, 0, 0), x -> x.joins(4), x -> x.check(-1),
+        x -> x.count(11), x -> x.told(7));
+    counted(2, x -> x.across(1), x -> x.soonest(0, 8), x -> x.first(0, 0), x -> x.stops(1), x -> x.meet(0, 1, 1),
+        x -> x.body(-1), x -> x.put(3, 0, 0), x -> x.move(3, 0, 0, 0, 0), x -> x.joins(3));
+    counted(3, x -> x.join(0, 1, 0), x -> x.gone(3, 0, 0), x -> x.cross(2, 1), x -> x.sheet(0, 8, -1), x -> x.check(3));
+    counted(5, x -> x.as(0, 2), x -> x.move(0, 0, 1, 0, 0));
+  }
+
+  private static void counted(int k, Asks... acts) {
+    for (int i = 0; i < acts.length; i++) {
       TurnedLand x = landOf(Bounds::some);
-      int k = (Integer) act[0];
       int was = x.told(k);
-      due("an act that answers LOW - " + k, LOW - k, ((Asks) act[1]).of(x));
-      due("told(" + k + ") of it", was + 1, x.told(k));
+      due("act " + i + " that answers LOW - " + k, LOW - k, acts[i].of(x));
+      due("told(" + k + ") of act " + i, was + 1, x.told(k));
     }
   }
 
@@ -391,6 +388,39 @@ final class ImageBounds extends Bounds {
       x.square(1);
       x.walk(0, 0, 0);
     }, x -> x.voice(0, 3, 1));
+  }
+
+  /** Calls that only ask, answered and refused: what they answer leaves nothing behind. */
+  private static void asking() {
+    List<Asks> asks = new ArrayList<>();
+    for (int i = 0; i < 6; i++) {
+      int k = i;
+      asks.add(x -> x.joinIs(k, k % 3));
+      asks.add(x -> x.across(5 * k));
+      asks.add(x -> x.land(k));
+      asks.add(x -> x.plain());
+      asks.add(x -> x.soonest(k, 7 - k));
+      asks.add(x -> x.reached(k));
+      asks.add(x -> x.first(7 - k, k));
+      asks.add(x -> x.walkIs(k, 4));
+      asks.add(x -> x.as(k, 1));
+      asks.add(x -> x.gone(k, k % 2, k % 3));
+      asks.add(x -> x.stops(k));
+      asks.add(x -> x.personIs(k, k % 2));
+      asks.add(x -> x.meet(k, 2, k % 3));
+      asks.add(x -> x.thingIs(k, k % 5));
+      asks.add(x -> x.bring(k));
+      asks.add(x -> x.agree());
+      asks.add(x -> x.known(k));
+      asks.add(x -> x.test());
+      asks.add(x -> x.body(k));
+      asks.add(x -> x.count(2 * k));
+      asks.add(x -> x.told(1 + k));
+    }
+    for (Asks ask : asks) {
+      changesNothing("a call that only asks", Bounds::some, ask);
+      changesNothing("a call that only asks", Bounds::full, ask);
+    }
   }
 
   private static void quotients() {

@@ -261,6 +261,7 @@ final class LandBounds extends Bounds {
     refused("SQUARES, but no JOIN", STATE, y -> y.square(1), y -> y.part());
     due("the only one", 0, land(1).join(0, 1, 0));
     refused("none any more", STATE, Bounds::parted, y -> y.part());
+    refused("none any more, where there is some of all", STATE, Bounds::someParted, y -> y.part());
   }
 
   private static void across() {
@@ -456,6 +457,10 @@ final class LandBounds extends Bounds {
     due("the one STRAIGHT JOIN among TURNED ones, left out, does", 1, one.plain());
     says(10, "NONE: two don't do.");
     refused("three TURNED ones, the first number too large", NONE, Bounds::threeBands, y -> y.plain());
+    refused("a third one where there is some of all", NONE, y -> {
+      some(y);
+      y.join(edge(4, EAST), edge(4, WEST), TURNED);
+    }, y -> y.plain());
     due("one of three STRAIGHT again", 2, Bounds::threeBands, y -> y.turn(1, 0) == 1 ? y.plain() : -1);
     due("one of three taken off", 2, Bounds::threeBands, y -> y.part() == 2 ? y.plain() : -1);
     due("none of three TURNED", 0, Bounds::threeBands,

@@ -296,6 +296,7 @@ final class VoiceBounds extends Bounds {
       refused("number " + i + " of none", NONE, Bounds::nothing, x -> x.body(i));
     }
     refused("number 0 of none", NONE, Bounds::nothing, x -> x.body(0));
+    refused("number 6 of six", NONE, Bounds::some, x -> x.body(6));
     refused("number 1 of one", NONE, x -> {
       ten(0).on(x);
       x.voice(0, GOES, 1);

@@ -54,6 +54,7 @@ final class WayBounds extends Bounds {
     refused("there, with this HAND", NONE, WayBounds::apart, x -> x.soonest(0, 2));
     due("there, with the other one", 5, WayBounds::apart, x -> x.soonest(0, 3));
     refused("from the last place but one to the last", NONE, Bounds::some, x -> x.soonest(8, 9));
+    refused("from a ring to a SQUARE alone", NONE, Bounds::some, x -> x.soonest(0, 8));
     due("no more behind turn()", 10, WayBounds::apart, x -> x.join(1, 7, 0) == 1 ? x.soonest(0, 1) : -1);
   }
 
@@ -136,6 +137,7 @@ final class WayBounds extends Bounds {
     refused("the other HAND, no JOIN", NONE, x -> x.square(1), x -> x.first(0, 1));
     refused("a SQUARE alone", NONE, WayBounds::apart, x -> x.first(0, 4));
     refused("with this HAND", NONE, WayBounds::apart, x -> x.first(0, 2));
+    refused("from a ring to a SQUARE alone", NONE, Bounds::some, x -> x.first(1, 9));
     refused("one is there, place 0", NONE, Bounds::full, x -> x.first(0, 0));
     refused("one is there, place 15", NONE, Bounds::full, x -> x.first(15, 15));
     refused("one is there, though a JOIN leads there", NONE, Bounds::some, x -> x.first(6, 6));
