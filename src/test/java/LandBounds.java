@@ -21,6 +21,7 @@ final class LandBounds extends Bounds {
     cornersOfOneSquare();
     landNumbers();
     partsAndRims();
+    lastRims();
     comesHome();
     ringsInAnyOrder();
     plain();
@@ -392,6 +393,34 @@ final class LandBounds extends Bounds {
     due("a ring of two SQUARES has two RIMS", 2, touch.land(4));
     touch.join(edge(0, NORTH), edge(1, SOUTH), STRAIGHT);
     due("RIMS that hang together by a CORNER are one", 1, touch.land(4));
+  }
+
+  /** Rings of the last SQUARE alone; and answers that don't hang on what was asked ahead. */
+  private static void lastRims() {
+    for (int one = 0; one < 4; one++) {
+      TurnedLand x = land(1, 1, 1, 1, 1, 1, 1, 1);
+      x.join(edge(7, one), edge(7, (one + 2) % 4), STRAIGHT);
+      due("two rings of the last SQUARE, EDGE " + one + " first", 9, x.land(4));
+      x.turn(0, TURNED);
+      due("one ring of the last SQUARE, EDGE " + one + " first", 8, x.land(4));
+    }
+    Acts[] lands = {Bounds::full, Bounds::some, x -> {
+      for (int s = 0; s < 8; s++) x.square(1);
+      for (int s = 7; s > 0; s--) x.join(edge(s, EAST), edge(s - 1, WEST), s % 2);
+      x.join(edge(0, NORTH), edge(7, SOUTH), TURNED);
+    }};
+    for (Acts acts : lands) {
+      for (int what = 0; what <= 5; what++) {
+        int fresh = landOf(acts).land(what);
+        for (int ahead = 0; ahead <= 5; ahead++) {
+          TurnedLand x = landOf(acts);
+          x.land(ahead);
+          due("land(" + what + ") behind land(" + ahead + ")", fresh, x.land(what));
+          int plain = landOf(acts).plain();
+          due("plain() behind them", plain, x.plain());
+        }
+      }
+    }
   }
 
   private static void comesHome() {
